@@ -284,6 +284,15 @@ public final class PromisesTest {
         dueFault(full + "x", 49, 1);
         dueFault(full + "1", 49, 1);
         C.due("six are none too many", Checks.townOf(full).count(1), 6);
+        // what an earlier, longer text left behind the end is not read
+        PaperHour again = Checks.townOf(full);
+        int[][] shorter = {{1, 1}, {2, 2}, {3, 3}, {8, 8}, {9, 9}};
+        for (int[] lengthAndPlace : shorter) {
+            Checks.feedAll(again, full.substring(0, lengthAndPlace[0]));
+            C.due("shorter", again.town(), -1000100 - lengthAndPlace[1]);
+        }
+        Checks.feedAll(again, full.substring(0, 14));
+        C.due("shorter, whole", again.town(), 1);
         // all stays but the tape
         PaperHour x = Checks.townOf(TOWN);
         x.give(1);
@@ -610,6 +619,13 @@ public final class PromisesTest {
         C.due("the other", two.copies(2, 1), 1);
         C.due("there is no third", two.copies(2, 2), NONE);
         C.due("bad ahead of none", two.copies(2, 6), BAD);
+        PaperHour one = Checks.townOf("p0,1,9;o0,5,0;");
+        C.due("a copy that nobody has", one.copies(2, -1), 1000 + 5 - 2);
+        C.due("the first has it", one.copies(3, 0), 0);
+        PaperHour far = Checks.townOf("p0,0,4;o0,0,0;o5,9,0;");
+        C.due("nothing is earned", far.copies(3, -1), 1000);
+        C.due("he can have it", far.copies(3, 0), 0);
+        C.due("he cannot", far.copies(3, 1), 3);
     }
 
     private static void copiesAreNew() {
