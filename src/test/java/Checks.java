@@ -45,4 +45,25 @@ final class Checks {
         }
         return x;
     }
+
+    /** All at the press, ever worthier, so that what is earned tells who has read it. */
+    static final String POWERS = "p0,0,60;o0,1,0;o0,2,0;o0,4,0;o0,8,0;o0,16,0;o0,30,0;";
+
+    private static final int[] WORTHS = {1, 2, 4, 8, 16, 30};
+
+    /**
+     * An item from 0 to 5, which no call tells outright: by how much that reader would bring in the town above, which is
+     * fed if there is none. -1 for what is no reader.
+     */
+    static int itemOf(PaperHour x, int row, int i) {
+        if (x.count(1) == 0) {
+            feedAll(x, POWERS);
+            x.town();
+        }
+        int item = -1;
+        for (int worth : WORTHS) {
+            item += x.lost(row, i, 1, 0, worth, 0) == 1 ? 1 : 0;
+        }
+        return item;
+    }
 }

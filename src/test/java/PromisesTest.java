@@ -100,25 +100,10 @@ public final class PromisesTest {
         C.due("of shorts now", x.set(7, 0, 70000), 4464);
         C.due("two items", x.row(6, 2, 2), 2);
         x.set(6, 0, 5);
-        C.due("what is set", itemOf(x, 6, 0), 5);
+        C.due("what is set", Checks.itemOf(x, 6, 0), 5);
         C.due("one item, in their place", x.row(6, 2, 1), 1);
-        C.due("items are 0 at first", itemOf(x, 6, 0), 0);
+        C.due("items are 0 at first", Checks.itemOf(x, 6, 0), 0);
         C.due("the second is gone", x.set(6, 1, 0), PLACE);
-    }
-
-    /** An item from 0 to 5, which no call tells outright: by how much that reader would bring. */
-    private static int itemOf(PaperHour x, int row, int i) {
-        if (x.count(1) == 0) {
-            Checks.feedAll(x, "p0,0,60;o0,1,0;o0,2,0;o0,4,0;o0,8,0;o0,16,0;o0,30,0;");
-            x.town();
-        }
-        for (int reader = 0; reader < 6; reader++) {
-            if (x.lost(row, i, 1, 0, x.reader(reader, 1), 0) == 1
-                    && x.lost(row, i, 1, 0, x.reader(reader, 1) + 1, 0) == 0) {
-                return reader;
-            }
-        }
-        return NONE;
     }
 
     private static void set() {
@@ -181,7 +166,7 @@ public final class PromisesTest {
 
     private static void dueItems(PaperHour x, int row, int... items) {
         for (int i = 0; i < items.length; i++) {
-            C.due("item " + i, itemOf(x, row, i), items[i]);
+            C.due("item " + i, Checks.itemOf(x, row, i), items[i]);
         }
     }
 
