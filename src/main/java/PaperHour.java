@@ -17,7 +17,7 @@ public final class PaperHour {
     private static final int TOP_PLACE = 9, TOP_WORTH = 30, TOP_LATE = 9, TOP_STAMP = 20, TOP_LAST = 60;
     private static final int TOP_PAUSE = 24, TOP_HOUR = 999, TOP_EARNED = 999;
     private static final int TOP_DAYS = 60, TOP_SEED = 999999;
-    /** Where a count of copies is told, it may be below 0; this keeps it clear of the refusals. */
+    /** What COPIES earn may be below 0: so much more is told, which keeps it clear of the refusals. */
     private static final int TOLD_MORE = 1000;
 
     private final Rows rows;
